@@ -62,7 +62,7 @@ public final class FloatTowns {
         spare = new Plan();
         fault = 0;
         faultPlace = NONE;
-        sailing.takePlan(plan);
+        sailing.board(plan);
     }
 
     // ---- the text ----
@@ -92,7 +92,7 @@ public final class FloatTowns {
         Plan former = plan;
         plan = spare;
         spare = former;
-        sailing.takePlan(plan);
+        sailing.board(plan);
         survey.forget();
         history.forget();
         now.begin(plan.boundTowns);
@@ -190,7 +190,7 @@ public final class FloatTowns {
         }
         int crew = plan.crewAt(now.parting, place);
         if (comes) {
-            return sailing.worthIn(now, sort, place, crew + one(sort));
+            return sailing.worthOfOneMore(now, sort, place, crew);
         }
         return part(crew, sort) == 0 ? NO_VALUE : sailing.worthIn(now, sort, place, crew);
     }
@@ -534,15 +534,20 @@ public final class FloatTowns {
         private static final int NUMBER_MOST = 100000;
 
         private final int[] tape = new int[TAPE_MOST];
+        private final int[] kinds = new int[TAPE_MOST];
+        private final int[] values = new int[TAPE_MOST];
+        private final int[] starts = new int[TAPE_MOST];
         private int fed;
         private int size;
+        private int many;
         private int next;
         private int start;
         private int fault;
         private int faultPlace;
-        private int number;
+        /** What stands here. */
         int kind;
-        int name;
+        /** The number that stands here, or the name's letters, five bits each, the first one highest of six. */
+        int value;
 
         boolean hasRoom(int bytes) {
             return fed + bytes <= TAPE_MOST;
@@ -561,10 +566,21 @@ public final class FloatTowns {
             }
         }
 
-        /** The first n bytes are read from here on; the tape counts as empty, its bytes stay until it is fed. */
+        /** The first n bytes are read from here on, and the tape is empty. */
         void open(int n) {
             size = Math.min(n, fed);
             fed = 0;
+            many = 0;
+            for (int at = 0; at < size; at++) {
+                if (tape[at] != 10 && tape[at] != 32 && many < TAPE_MOST) {
+                    int from = at;
+                    at = Math.max(from, lastOf(from));
+                    starts[many] = from;
+                    kinds[many] = kindOf(from, at + 1);
+                    values[many] = valueOf(from, at + 1, kinds[many]);
+                    many++;
+                }
+            }
             next = 0;
             fault = 0;
             faultPlace = NONE;
@@ -592,20 +608,11 @@ public final class FloatTowns {
         }
 
         void step() {
-            while (next < size && (tape[next] == 10 || tape[next] == 32)) {
-                next++;
-            }
-            start = next;
-            if (next >= size) {
-                kind = END;
-            } else if (isLetter(tape[next])) {
-                readWord();
-            } else if (isDigit(tape[next])) {
-                readNumber();
-            } else {
-                kind = signKind(tape[next]);
-                next++;
-            }
+            boolean more = next < many;
+            kind = more ? kinds[next] : END;
+            value = more ? values[next] : 0;
+            start = more ? starts[next] : size;
+            next += more ? 1 : 0;
         }
 
         boolean take(int wanted) {
@@ -629,62 +636,69 @@ public final class FloatTowns {
                 refuse(CANNOT_STAND);
                 return NONE;
             }
-            if (number < low || number > high) {
+            if (value < low || value > high) {
                 refuse(TOO_MUCH);
                 return NONE;
             }
-            int value = number;
+            int number = value;
             step();
-            return value;
+            return number;
         }
 
-        private void readWord() {
-            while (next < size && isLetter(tape[next])) {
-                next++;
+        /** Where the token that starts here has its last sign. */
+        private int lastOf(int from) {
+            int last = from;
+            while (last + 1 < size && (isLetter(tape[from]) && isLetter(tape[last + 1])
+                || isDigit(tape[from]) && isDigit(tape[last + 1]))) {
+                last++;
             }
-            kind = kindOfWord();
-            name = 0;
-            if (kind == FREE_WORD) {
-                for (int i = 0; i < LETTERS_MOST; i++) {
-                    name = (name << 5) + (start + i < next ? tape[start + i] - 'a' + 1 : 0);
+            return last;
+        }
+
+        private int kindOf(int from, int to) {
+            if (isLetter(tape[from])) {
+                return kindOfWord(from, to);
+            }
+            return isDigit(tape[from]) ? NUMBER : signKind(tape[from]);
+        }
+
+        private int valueOf(int from, int to, int kindThere) {
+            int found = 0;
+            if (kindThere == NUMBER) {
+                for (int i = from; i < to; i++) {
+                    found = Math.min(NUMBER_MOST, found * 10 + tape[i] - '0');
+                }
+            } else if (kindThere == FREE_WORD) {
+                for (int i = from; i < from + LETTERS_MOST; i++) {
+                    found = (found << 5) + (i < to ? tape[i] - 'a' + 1 : 0);
                 }
             }
+            return found;
         }
 
-        private int kindOfWord() {
+        private int kindOfWord(int from, int to) {
             int word = GOOD;
-            int from = 0;
+            int begin = 0;
             for (int i = 0; i < WORDS.length(); i++) {
                 if (WORDS.charAt(i) == ' ') {
-                    if (isWord(from, i - from)) {
+                    if (i - begin == to - from && isSame(begin, from, to)) {
                         return word;
                     }
                     word++;
-                    from = i + 1;
+                    begin = i + 1;
                 }
             }
-            return next - start > LETTERS_MOST ? BROKEN : FREE_WORD;
+            return to - from > LETTERS_MOST ? BROKEN : FREE_WORD;
         }
 
-        private boolean isWord(int from, int length) {
-            if (next - start != length) {
-                return false;
-            }
-            for (int i = 0; i < length; i++) {
-                if (WORDS.charAt(from + i) != tape[start + i]) {
+        /** Whether the word that begins there in WORDS is the one on the tape. */
+        private boolean isSame(int begin, int from, int to) {
+            for (int i = from; i < to; i++) {
+                if (WORDS.charAt(begin + i - from) != tape[i]) {
                     return false;
                 }
             }
             return true;
-        }
-
-        private void readNumber() {
-            number = 0;
-            while (next < size && isDigit(tape[next])) {
-                number = Math.min(NUMBER_MOST, number * 10 + tape[next] - '0');
-                next++;
-            }
-            kind = NUMBER;
         }
 
         private static int signKind(int sign) {
@@ -730,37 +744,33 @@ public final class FloatTowns {
             plan.wipe();
             tokens.open(n);
             for (int i = 0; i < TAPE_MOST && tokens.isSound() && tokens.kind != Tokens.END; i++) {
-                readLine();
+                switch (tokens.kind) {
+                    case Tokens.GOOD:
+                        readGood();
+                        break;
+                    case Tokens.FLOAT:
+                        readFloat();
+                        break;
+                    case Tokens.LIKE:
+                        readLiking();
+                        break;
+                    case Tokens.TOWN:
+                        readTown();
+                        break;
+                    case Tokens.GROUND:
+                        readGround();
+                        break;
+                    case Tokens.STORM:
+                        readStorm();
+                        break;
+                    default:
+                        tokens.refuse(Tokens.CANNOT_STAND);
+                        break;
+                }
+                tokens.take(';');
+                plan.lines++;
             }
             return tokens.isSound();
-        }
-
-        private void readLine() {
-            switch (tokens.kind) {
-                case Tokens.GOOD:
-                    readGood();
-                    break;
-                case Tokens.FLOAT:
-                    readFloat();
-                    break;
-                case Tokens.LIKE:
-                    readLiking();
-                    break;
-                case Tokens.TOWN:
-                    readTown();
-                    break;
-                case Tokens.GROUND:
-                    readGround();
-                    break;
-                case Tokens.STORM:
-                    readStorm();
-                    break;
-                default:
-                    tokens.refuse(Tokens.CANNOT_STAND);
-                    break;
-            }
-            tokens.take(';');
-            plan.lines++;
         }
 
         private void readGood() {
@@ -849,7 +859,7 @@ public final class FloatTowns {
                 tokens.step();
             }
             if (tokens.take(Tokens.ASK)) {
-                plan.rules.read(tokens, town);
+                plan.rules.readRule(tokens, town);
             }
         }
 
@@ -878,7 +888,7 @@ public final class FloatTowns {
                 return;
             }
             tokens.step();
-            plan.grounds.read(tokens, town);
+            plan.grounds.readRows(tokens, town);
         }
 
         private void readStorm() {
@@ -902,11 +912,11 @@ public final class FloatTowns {
                 tokens.refuse(Tokens.CANNOT_STAND);
                 return NONE;
             }
-            if (plan.find(kind, tokens.name) != NONE) {
+            if (plan.find(kind, tokens.value) != NONE) {
                 tokens.refuse(Tokens.TOLD_ALREADY);
                 return NONE;
             }
-            plan.addName(kind, tokens.name);
+            plan.addName(kind, tokens.value);
             tokens.step();
             return number;
         }
@@ -917,7 +927,7 @@ public final class FloatTowns {
                 tokens.refuse(Tokens.CANNOT_STAND);
                 return NONE;
             }
-            int number = plan.find(kind, tokens.name);
+            int number = plan.find(kind, tokens.value);
             if (number == NONE) {
                 tokens.refuse(Tokens.NOT_TOLD);
             }
@@ -958,14 +968,14 @@ public final class FloatTowns {
         private int waits;
         private int open;
 
-        void wipe() {
+        void wipeRules() {
             knots = 0;
             written = 0;
             Arrays.fill(starts, 0);
             Arrays.fill(ends, 0);
         }
 
-        void read(Tokens tokens, int town) {
+        void readRule(Tokens tokens, int town) {
             starts[town] = written;
             waits = 0;
             open = 0;
@@ -991,7 +1001,7 @@ public final class FloatTowns {
         }
 
         /** E for what the names mean; 0 with an error. */
-        long valueOf(int town) {
+        long workedOut(int town) {
             int top = 0;
             for (int i = starts[town]; i < ends[town]; i++) {
                 int step = steps[i];
@@ -1159,7 +1169,7 @@ public final class FloatTowns {
         private final int[] rows = new int[TOWNS * SIDE];
         private final int[] moved = new int[SIDE * SIDE];
 
-        void wipe() {
+        void wipeGrounds() {
             Arrays.fill(wide, 0);
             Arrays.fill(high, 0);
         }
@@ -1168,7 +1178,7 @@ public final class FloatTowns {
             return wide[town] > 0;
         }
 
-        void read(Tokens tokens, int town) {
+        void readRows(Tokens tokens, int town) {
             int width = tokens.takeNumber(1, SIDE);
             if (width == NONE) {
                 return;
@@ -1263,8 +1273,8 @@ public final class FloatTowns {
             Arrays.fill(wants, 0);
             Arrays.fill(likes, 0);
             Arrays.fill(gives, 0);
-            rules.wipe();
-            grounds.wipe();
+            rules.wipeRules();
+            grounds.wipeGrounds();
             wantsTold = 0;
             likesTold = 0;
             votingTowns = 0;
@@ -1411,29 +1421,34 @@ public final class FloatTowns {
     }
 
     /**
-     * What a crew in a town comes to: the goods given to it, what each of its sorts likes there and is asked. Kept
-     * once worked out, as the same crews are met again and again; a crew with one float more than there are of a
-     * sort is worked out each time, in the last row.
+     * What a crew in a town comes to: the goods given to it, what each of its sorts likes there and is asked by the
+     * rule. Worked out for all crews when a text is read, as the same crews are met again and again.
      */
     private static final class Ledger {
         /** Sorts of 3, 3, 2, 2 and 2 floats make the most crews. */
         private static final int CREWS_MOST = 432;
-        private static final int LAST_ROW = TOWNS * CREWS_MOST;
+        /** For a crew with one float more than there are of a sort. */
+        private static final int SPARE_ROW = TOWNS * CREWS_MOST;
 
-        final int[] given = new int[LAST_ROW + 1];
+        final int[] given = new int[SPARE_ROW + 1];
         int crews;
-        private final int[] liked = new int[(LAST_ROW + 1) * SORTS];
-        private final long[] ruled = new long[(LAST_ROW + 1) * SORTS];
+        private final int[] liked = new int[(SPARE_ROW + 1) * SORTS];
+        private final long[] ruled = new long[(SPARE_ROW + 1) * SORTS];
         private final int[] weights = new int[SORTS];
         private Plan plan;
 
-        void takePlan(Plan plan) {
-            this.plan = plan;
-            Arrays.fill(given, NONE);
+        void workOut(Plan told) {
+            plan = told;
             crews = 1;
             for (int sort = SORTS - 1; sort >= 0; sort--) {
                 weights[sort] = crews;
                 crews *= sort < plan.sorts() ? plan.figure(sort, MANY) + 1 : 1;
+            }
+            crews = Math.min(crews, CREWS_MOST);
+            for (int town = 0; town < plan.alone(); town++) {
+                for (int number = 0; number < crews; number++) {
+                    write(town * CREWS_MOST + number, town, crewOfNumber(number));
+                }
             }
         }
 
@@ -1449,24 +1464,23 @@ public final class FloatTowns {
             return crew;
         }
 
+        /** The row of a crew, of which there are so many of each sort. */
         int row(int town, int crew) {
             int number = 0;
-            for (int sort = 0; sort < plan.sorts(); sort++) {
-                if (part(crew, sort) > plan.figure(sort, MANY)) {
-                    write(LAST_ROW, town, crew);
-                    return LAST_ROW;
-                }
-                number += part(crew, sort) * weights[sort];
+            for (int sort = 0; sort < SORTS; sort++) {
+                number += ((crew >> (3 * sort)) & 7) * weights[sort];
             }
-            int row = town * CREWS_MOST + number;
-            if (given[row] == NONE) {
-                write(row, town, crew);
-            }
-            return row;
+            return town * CREWS_MOST + Math.min(number, CREWS_MOST - 1);
         }
 
-        int likedBy(int sort, int row) {
-            return liked[row * SORTS + sort];
+        /** A row for any crew, until the next one is asked for. */
+        int spareRow(int town, int crew) {
+            write(SPARE_ROW, town, crew);
+            return SPARE_ROW;
+        }
+
+        long likedBy(int sort, int row) {
+            return liked[row * SORTS + sort] * UNIT;
         }
 
         long ruledFor(int sort, int row) {
@@ -1483,7 +1497,7 @@ public final class FloatTowns {
                 rules.meanings[Rules.MANY_OF_SORT] = part(crew, sort) * UNIT;
                 rules.meanings[Rules.PAYS_NAME] = plan.figure(sort, PAYS) * UNIT;
                 rules.meanings[Rules.OWN_NAME] = plan.figure(sort, OWN) * UNIT;
-                ruled[row * SORTS + sort] = rules.valueOf(town);
+                ruled[row * SORTS + sort] = rules.workedOut(town);
                 liked[row * SORTS + sort] = likedIn(sort, goods, crew);
             }
         }
@@ -1518,9 +1532,9 @@ public final class FloatTowns {
         /** The town that asks foundFlat and foundTimes what a sort pays, in place of its rule; else NONE. */
         private int reformed = NONE;
 
-        void takePlan(Plan plan) {
+        void board(Plan plan) {
             this.plan = plan;
-            ledger.takePlan(plan);
+            ledger.workOut(plan);
         }
 
         int givenIn(int town, int crew) {
@@ -1533,7 +1547,7 @@ public final class FloatTowns {
 
         private long askedByRow(Scene scene, int sort, int town, int row) {
             long rule = town == reformed
-                ? (foundFlat + foundTimes * plan.figure(sort, PAYS)) * UNIT
+                ? (foundFlat + foundTimes * plan.figures[sort * FIGURES + PAYS]) * UNIT
                 : ledger.ruledFor(sort, row);
             return rule + scene.extras[town] * UNIT;
         }
@@ -1544,7 +1558,16 @@ public final class FloatTowns {
                 return plan.figure(sort, OWN) * UNIT;
             }
             int row = ledger.row(place, crew);
-            return ledger.likedBy(sort, row) * UNIT - askedByRow(scene, sort, place, row);
+            return ledger.likedBy(sort, row) - askedByRow(scene, sort, place, row);
+        }
+
+        /** The same with one more of the sort, even if all of it are there already. */
+        long worthOfOneMore(Scene scene, int sort, int place, int crew) {
+            if (place >= plan.alone()) {
+                return plan.figure(sort, OWN) * UNIT;
+            }
+            int row = ledger.spareRow(place, crew + one(sort));
+            return ledger.likedBy(sort, row) - askedByRow(scene, sort, place, row);
         }
 
         /** Worth of a place to all of a crew that is there. */
@@ -1592,23 +1615,19 @@ public final class FloatTowns {
         boolean seekFirst(Scene scene) {
             for (int sort = 0; sort < plan.sorts(); sort++) {
                 for (int a = 0; a <= plan.alone(); a++) {
-                    if (canLeave(scene, one(sort), a) && seekTarget(scene, sort, a)) {
-                        foundSort = sort;
-                        foundFrom = a;
-                        return true;
+                    if (!canLeave(scene, one(sort), a)) {
+                        continue;
                     }
-                }
-            }
-            return false;
-        }
-
-        private boolean seekTarget(Scene scene, int sort, int a) {
-            long stay = stayOf(scene, sort, a);
-            for (int b = 0; b <= plan.alone(); b++) {
-                int crewB = plan.crewAt(scene.parting, b) + one(sort);
-                if (b != a && worthIn(scene, sort, b, crewB) > stay) {
-                    foundTo = b;
-                    return true;
+                    long stay = stayOf(scene, sort, a);
+                    for (int b = 0; b <= plan.alone(); b++) {
+                        int crew = plan.crewAt(scene.parting, b) + one(sort);
+                        if (b != a && worthIn(scene, sort, b, crew) > stay) {
+                            foundSort = sort;
+                            foundFrom = a;
+                            foundTo = b;
+                            return true;
+                        }
+                    }
                 }
             }
             return false;
@@ -1799,8 +1818,17 @@ public final class FloatTowns {
         }
 
         void pass(Scene scene, int many) {
+            int storm = sailing.plan.storm;
             for (int month = 0; month < many; month++) {
-                passOne(scene);
+                if (scene.tied > 0) {
+                    scene.tied--;
+                } else if (sailing.seekFirst(scene)) {
+                    sailing.sailFound(scene);
+                }
+                if (storm > 0 && nextNumber() % storm == 0) {
+                    scene.tied = STORM_MONTHS;
+                }
+                scene.months++;
             }
         }
 
@@ -1815,19 +1843,6 @@ public final class FloatTowns {
                 }
             }
             return empty;
-        }
-
-        private void passOne(Scene scene) {
-            if (scene.tied > 0) {
-                scene.tied--;
-            } else if (sailing.seekFirst(scene)) {
-                sailing.sailFound(scene);
-            }
-            int storm = sailing.plan.storm;
-            if (storm > 0 && nextNumber() % storm == 0) {
-                scene.tied = STORM_MONTHS;
-            }
-            scene.months++;
         }
 
         private long nextNumber() {

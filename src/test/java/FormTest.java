@@ -6,7 +6,9 @@ import java.nio.charset.StandardCharsets;
 import java.nio.file.Files;
 import java.nio.file.Path;
 import java.util.Arrays;
+import java.util.Map;
 import java.util.Set;
+import java.util.TreeMap;
 import java.util.TreeSet;
 import java.util.regex.Matcher;
 import java.util.regex.Pattern;
@@ -129,6 +131,7 @@ public final class FormTest {
         Matcher m = Pattern.compile("(?m)^( {4}| {8})((?:public |private |static |final )*)([\\w\\[\\]]+ )?(\\w+)\\(([^)]*)\\)[^;{]*\\{")
             .matcher(code);
         int found = 0;
+        Map<String, String> bodies = new TreeMap<>();
         while (m.find()) {
             String end = "\n" + m.group(1) + "}";
             int close = code.indexOf(end, m.end());
@@ -140,7 +143,27 @@ public final class FormTest {
             Check.due(m.group(4) + " has few parameters", parameters <= 7, true);
             boolean itself = Pattern.compile("(?<![.\\w])" + m.group(4) + "\\(").matcher(body).find();
             Check.due(m.group(4) + " calls not itself", itself, false);
+            // methods of one name count as one, which makes ways longer at most
+            bodies.merge(m.group(4), body, String::concat);
         }
         Check.due("methods found: " + found, found > 150, true);
+        for (String name : bodies.keySet()) {
+            int deep = depth(name, bodies, 0);
+            Check.due(name + " goes deep: " + deep, deep <= 8, true);
+        }
+    }
+
+    /** How many calls stand open at most in a call of a method, the library's one too. */
+    private static int depth(String name, Map<String, String> bodies, int open) {
+        int deepest = 0;
+        Matcher m = Pattern.compile("(?<!new )\\b(\\w+)\\(").matcher(bodies.get(name));
+        while (m.find() && open < 20) {
+            if (bodies.containsKey(m.group(1))) {
+                deepest = Math.max(deepest, depth(m.group(1), bodies, open + 1));
+            } else if (!m.group(1).matches("if|for|while|switch|return")) {
+                deepest = Math.max(deepest, 1);
+            }
+        }
+        return deepest + 1;
     }
 }
