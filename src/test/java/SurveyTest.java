@@ -74,6 +74,10 @@ public final class SurveyTest {
         Check.due("first all the same", x.first(0), -1);
         x = Check.with("float f 1 0 0 0;float g 1 0 0 0;float h 4 0 0 0;float i 3 0 0 0;" + "town a ask 0;town b ask 0;");
         Check.due("3 by 3 by 15 by 10", x.all(0), 1350);
+        x = Check.with("float f 1 0 0 0;float g 3 0 0 0;float h 3 0 0 0;float i 3 0 0 0;town a ask 0;town b ask 0;");
+        Check.due("3 by 10 by 10 by 10, the most that are told", x.all(0), 3000);
+        Check.due("and all hold", x.all(1), 3000);
+        Check.due("the last one", x.held(2999, 3, 0), 3);
         x = Check.with("float f 6 0 0 0;float g 6 0 0 0;" + towns + "town d ask 0;");
         Check.due("210 by 210", x.all(0), -2);
         x = Check.with("float f 3 0 0 0;float g 3 0 0 0;float h 2 0 0 0;float i 2 0 0 0;float j 2 0 0 0;"
@@ -95,6 +99,9 @@ public final class SurveyTest {
             + "town t gives a ask 1;town u gives a ask 2;");
         Check.due("two of 6 and one of 7", x.lost(0), 19 * UNIT);
         Check.due("that holds", x.lost(1), 0);
+        x = Check.with("float f 2 0 3 0;town t ask 1;town u ask 0;");
+        Check.due("all alone are the best, and the first of all", x.lost(0), 6 * UNIT);
+        Check.due("they are that", x.best(), false);
         x = Check.with("float f 2 0 1 0;like f f 3;town t ask 0;");
         Check.due("two together", x.lost(0), 6 * UNIT);
         Check.due("alone it holds, too", x.lost(2), 4 * UNIT);

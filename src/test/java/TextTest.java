@@ -4,6 +4,7 @@ public final class TextTest {
         feeds();
         reads();
         keepsOnFault();
+        forgets();
         names();
         tokens();
         goods();
@@ -87,6 +88,38 @@ public final class TextTest {
         Check.due("tied by the storm", x.tied(), 12);
         Check.tell(x, town);
         Check.due("nothing tied", x.tied(), 0);
+    }
+
+    /** Nothing of a text stays for a later one, sound or not, be it the next or the one behind that. */
+    private static void forgets() {
+        String rich = "good a 9;good b 8;float f 3 9 9 9 wants a 99 wants b 9;float g 3 9 9 9 wants a 9;like f f 9;"
+            + "like g f - 9;town t gives a gives b votes bound ask 9 * members;town u gives b votes bound ask - many;"
+            + "ground t 6 63 63 63 63 63 63;ground u 6 1;storm 2;";
+        String plain = "good c 1;good d 1;float h 2 0 1 0;float i 2 0 1 0;town v gives c ask 1;town w ask cost;";
+        String[] unsound = {rich + "?", "town t ask - ?;", "town t ask ((((((1 + - ?", "town t ask 1 + 2 * - (3 ?"};
+        java.util.List<Long> due = Check.answers(Check.with(plain));
+        for (String bad : unsound) {
+            FloatTowns x = Check.with(rich);
+            x.go(0, 2, 0);
+            for (int i = 0; i < 3; i++) {
+                Check.tell(x, bad);
+                Check.due("a fault", x.fault(0), 1);
+                Check.due("a text behind " + bad, Check.tell(x, plain), 6);
+                Check.due("the same answers", due.equals(Check.answers(x)), true);
+                Check.due("no ground", x.out(0, 0, 0), -1);
+                Check.due("no liking", x.likes(0, 0), 0);
+                Check.due("no want", x.wants(0, 0), 0);
+                Check.due("no name", x.named(0, Check.letters("a")), -1);
+                Check.due("a text again", Check.tell(x, i == 0 ? rich : plain), i == 0 ? 11 : 6);
+            }
+            Check.due("like anew", Check.tell(x, rich), 11);
+        }
+        FloatTowns x = new FloatTowns();
+        Check.feed(x, "good a 1;");
+        Check.due("good is cut to goo", x.text(3), -1);
+        Check.due("at its place", x.fault(1), 0);
+        Check.feed(x, "good a 1;good b 1;");
+        Check.due("nothing behind n", x.text(9), 1);
     }
 
     private static void names() {

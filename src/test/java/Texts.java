@@ -46,12 +46,14 @@ final class Texts {
         }
         int left = floatsMost;
         int told = 0;
+        // where all like or hate one another and nobody would be alone, there are rings
+        boolean lively = oneOf(3);
         for (int i = 0; i < sorts && left > 0; i++) {
             int many = Math.min(1 + upTo(oneOf(3) ? 5 : 2), left);
             left -= many;
             told++;
             text.append("float ").append(NAMES[i + 2]).append(' ').append(many).append(' ').append(upTo(9)).append(' ')
-                .append(upTo(20)).append(' ').append(oneOf(2) ? 0 : upTo(6));
+                .append(upTo(lively ? 6 : 20)).append(' ').append(lively || oneOf(2) ? 0 : upTo(6));
             for (int good = 0; good < goods; good++) {
                 if (!oneOf(3)) {
                     text.append(" wants ").append(NAMES[good]).append(' ').append(upTo(oneOf(3) ? 40 : 15));
@@ -61,9 +63,9 @@ final class Texts {
         }
         for (int i = 0; i < told; i++) {
             for (int j = 0; j < told; j++) {
-                if (oneOf(2)) {
+                if (lively || oneOf(2)) {
                     text.append("like ").append(NAMES[i + 2]).append(' ').append(NAMES[j + 2]).append(' ')
-                        .append(oneOf(2) ? "-" : "").append(upTo(oneOf(3) ? 20 : 6)).append(end());
+                        .append(oneOf(2) ? "-" : "").append(upTo(lively || oneOf(3) ? 20 : 6)).append(end());
                 }
             }
         }
