@@ -48,6 +48,13 @@ public final class SurveyTest {
         Check.due("held(0,0,3)", x.held(0, 0, 3), -1);
         Check.due("held(0,0,-1)", x.held(0, 0, -1), -1);
         Check.due("nothing is changed", x.at(0, 2), 2);
+        x = Check.with("float f 2 0 0 0;float g 1 0 0 0;town a ask 0;town b ask 0;");
+        x.go(0, 2, 1);
+        x.go(1, 2, 0);
+        Check.due("all, wherever they are now", x.all(1), 18);
+        Check.due("the first", x.held(0, 0, 2), 2);
+        Check.due("the second", x.held(1, 1, 1), 1);
+        Check.due("the last", x.held(17, 0, 0), 2);
     }
 
     private static void spent() {

@@ -63,6 +63,9 @@ public final class TermsTest {
         x.extra(0, 0);
         x.extra(1, 9);
         Check.due("to alone: 8 less 3 less and one more", x.edge(0, 0), 6);
+        x.extra(0, 5);
+        Check.due("it gains nothing: by one more", x.edge(0, 0), 1);
+        x.extra(0, 0);
         Check.due("no such town", x.edge(3, 0), -1);
         Check.due("no such town below", x.edge(-1, 0), -1);
         Check.due("no such sort", x.edge(0, 2), -1);

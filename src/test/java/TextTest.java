@@ -115,6 +115,24 @@ public final class TextTest {
             Check.due("like anew", Check.tell(x, rich), 11);
         }
         FloatTowns x = new FloatTowns();
+        StringBuilder long40 = new StringBuilder("float f 1 0 0 0;town t ask 1");
+        for (int i = 0; i < 20; i++) {
+            long40.append("+1");
+        }
+        for (int i = 0; i < 9; i++) {
+            Check.due("a rule of 41 knots, again and again", Check.tell(x, long40 + ";"), 2);
+            x.go(0, 1, 0);
+            Check.due("is what it is", x.asked(0, 0), 21 * 27720);
+        }
+        for (int i = 0; i < 3; i++) {
+            Check.tell(x, "town t ask 1;ground t 6 63 63 63;");
+            Check.due("a ground", x.out(0, 1, 1), 1);
+            Check.tell(x, "town t ask 1;ground t 6;");
+            Check.due("without rows there is none, whatever was ahead", x.out(0, 1, 1), -1);
+            if (i == 1) {
+                Check.tell(x, "");
+            }
+        }
         Check.feed(x, "good a 1;");
         Check.due("good is cut to goo", x.text(3), -1);
         Check.due("at its place", x.fault(1), 0);

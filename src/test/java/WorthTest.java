@@ -113,6 +113,16 @@ public final class WorthTest {
         Check.due("asked of no sort", x.asked(2, 0), Check.MIN);
         Check.due("asked of no sort below", x.asked(-1, 0), Check.MIN);
         Check.due("asked in no town", x.asked(0, -1), Check.MIN);
+        FloatTowns all = Check.with("float a 3 0 0 0;float b 3 0 0 0;float c 2 0 0 0;float d 2 0 0 0;float e 2 7 0 0;"
+            + "town t ask 0;town u ask 0;town v ask 0;town w ask members * 10 + many;");
+        for (int sort = 0; sort < 5; sort++) {
+            for (int i = 0; i < (sort < 2 ? 3 : 2); i++) {
+                all.go(sort, 4, 3);
+            }
+        }
+        Check.due("of the last sort, all in the last town", all.asked(4, 3), 122 * UNIT);
+        Check.due("of the first sort", all.asked(0, 3), 123 * UNIT);
+        Check.due("all", all.total(), -(6 * 123 + 6 * 122) * UNIT);
         FloatTowns y = Check.with("float f 1 0 0 0;town t ask 1 / 0;");
         y.go(0, 1, 0);
         y.extra(0, 3);
@@ -220,5 +230,8 @@ public final class WorthTest {
         Check.due("three thirds", x.met(0), 1);
         x.go(0, 0, 1);
         Check.due("a little less", x.met(1), 0);
+        x = Check.with("good a 1;float f 1 0 5 2;town t gives a ask 1 - 1 / 999 / 27;");
+        x.go(0, 1, 0);
+        Check.due("a unit less", x.met(0), 0);
     }
 }
