@@ -161,6 +161,12 @@ public final class SurveyTest {
         Check.due("one holds again", x.all(1), 1);
         x.go(0, 1, 0);
         Check.due("the parting counts not", x.all(1), 1);
+        x.extra(0, -99);
+        Check.due("99 are the best", x.lost(0), 99 * UNIT);
+        x.extra(0, -7);
+        Check.due("7 are the best", x.lost(0), 7 * UNIT);
+        Check.due("of those that hold now", x.lost(1), 0);
+        Check.due("the least of those that hold now", x.lost(2), 0);
         Check.tell(x, "float f 1 0 5 0;town t ask - 6;");
         Check.due("of the new text", x.held(0, 0, 0), 1);
         Check.due("its best", x.lost(0), 6 * UNIT);

@@ -6,6 +6,7 @@ public final class TermsTest {
         extras();
         binds();
         edges();
+        edgeByAUnit();
         reforms();
         splits();
         splitOrder();
@@ -76,6 +77,19 @@ public final class TermsTest {
         Check.due("nothing is changed", x.town(0, 4), 0);
     }
 
+    /** A unit is enough to go for, and nothing less. */
+    private static void edgeByAUnit() {
+        FloatTowns x = Check.with("float f 1 0 0 0;town t ask 1 / 999 / 27;town u ask 0;town v ask - 1 / 999 / 27;");
+        x.go(0, 3, 0);
+        Check.due("it gains a unit", x.gain(0, 0, 3), 1);
+        Check.due("it would go", x.edge(0, 0), 0);
+        x.go(0, 0, 2);
+        Check.due("it loses a unit", x.gain(0, 2, 3), -1);
+        Check.due("by one more", x.edge(2, 0), 1);
+        x.extra(2, -1);
+        Check.due("by two more, as it loses 1 and a unit", x.edge(2, 0), 2);
+    }
+
     private static void reforms() {
         FloatTowns x = Check.with("good a 10;float f 2 3 5 0 wants a 20;float g 1 1 5 0 wants a 11;"
             + "town t gives a ask 99;town u ask 99;");
@@ -92,6 +106,9 @@ public final class TermsTest {
         Check.due("y up to 1", x.reform(0, 30, 1, 1), 1);
         Check.due("y 0: x 4", x.reform(0, 30, 0, 0), 4);
         Check.due("y 0", x.reform(0, 30, 0, 1), 0);
+        Check.due("x up to 4, y 0", x.reform(0, 4, 0, 0), 4);
+        Check.due("x 0, y up to 2", x.reform(0, 0, 2, 1), 2);
+        Check.due("x 0, y up to 1", x.reform(0, 0, 1, 1), -2);
         Check.due("x up to 3, y 0", x.reform(0, 3, 0, 0), -2);
         Check.due("x up to 3, y 0, what 1", x.reform(0, 3, 0, 1), -2);
         Check.due("nothing is changed", x.asked(0, 0), 99 * UNIT);
