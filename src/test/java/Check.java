@@ -7,8 +7,27 @@ final class Check {
     static final long MIN = Long.MIN_VALUE;
     private static int looked;
     private static int wrong;
+    private static int sentences;
+    private static int lookedAhead;
+    private static String sentence = "";
 
     private Check() {
+    }
+
+    /** The document's sentence that the next answers are about, to the letter; one without answers is wrong. */
+    static void sentence(String words) {
+        closeSentence();
+        sentence = words;
+        sentences++;
+        lookedAhead = looked;
+    }
+
+    private static void closeSentence() {
+        if (!sentence.isEmpty() && looked == lookedAhead) {
+            wrong++;
+            System.out.println("no answer is asked about: " + sentence);
+        }
+        sentence = "";
     }
 
     static void due(String call, long got, long want) {
@@ -16,7 +35,8 @@ final class Check {
         if (got != want) {
             wrong++;
             if (wrong <= 50) {
-                System.out.println(call + " answered " + got + ", due is " + want);
+                String about = sentence.isEmpty() ? "" : "\"" + sentence + "\": ";
+                System.out.println(about + call + " answered " + got + ", due is " + want);
             }
         }
     }
@@ -27,7 +47,9 @@ final class Check {
 
     /** Ends the test: with exit code 1 if an answer was wrong. */
     static void end(String test) {
-        System.out.println(test + ": " + looked + " answers, " + wrong + " wrong");
+        closeSentence();
+        String about = sentences == 0 ? "" : " about " + sentences + " sentences";
+        System.out.println(test + ": " + looked + " answers" + about + ", " + wrong + " wrong");
         if (wrong > 0 || looked == 0) {
             System.exit(1);
         }
@@ -68,6 +90,15 @@ final class Check {
         due("text(" + text + ") has a fault", lines < 0, fault != 0);
         due("fault(0) of " + text, x.fault(0), fault);
         due("fault(1) of " + text, x.fault(1), place);
+    }
+
+    /** A text with a mark (^) where it must have this fault; the mark is no part of it. */
+    static void faultAt(int fault, String marked) {
+        fault(marked.replace("^", ""), fault, marked.indexOf('^'));
+    }
+
+    static void sound(String text) {
+        fault(text, 0, -1);
     }
 
     /** 0 if look answers, 1 for IndexOutOfBoundsException, 2 for NoSuchElementException, 3 for another one. */

@@ -9,8 +9,6 @@ public final class GoingTest {
         partyOrder();
         goings();
         rings();
-        lost();
-        longWay();
         empties();
         Check.end("GoingTest");
     }
@@ -203,46 +201,6 @@ public final class GoingTest {
         Check.due("behind three", y.ring(1), 3);
         y.go(0, 1, 0);
         Check.due("behind two", y.ring(1), 2);
-    }
-
-    /** Twelve that run after one another and away: LOST, until so few goings are left that the ring is seen. */
-    private static void lost() {
-        FloatTowns x = Check.with("good a 1;good b 28;good c 18;float a 2 6 6 0 wants a 28 wants b 24;"
-            + "float b 4 8 3 0 wants b 22 wants c 10;float c 4 9 10 0 wants a 32 wants b 10;"
-            + "float d 2 5 1 0 wants a 12 wants b 10 wants c 32;like a a - 6;like a b 17;like a c 2;"
-            + "like a d - 10;like b a 19;like b b 2;like b c - 18;like b d - 6;like c a 15;like c b 8;"
-            + "like c c 8;like c d - 10;like d a - 16;like d b - 7;like d c 18;like d d - 7;"
-            + "town a gives a gives c ask cost/members + 2;town b gives a gives c votes ask pays + 2;"
-            + "town c gives b votes ask many + 3;");
-        for (int gone = 0; gone < 3; gone++) {
-            Check.due("lost", x.ring(0), 3);
-            Check.due("behind none", x.ring(1), -1);
-            Check.due("no period", x.ring(2), -1);
-            x.goings(1);
-        }
-        for (int gone = 0; gone < 112; gone++) {
-            Check.due("a ring that comes again behind 300 or fewer", x.ring(0), 2);
-            Check.due("first behind", x.ring(1), Math.max(0, 110 - gone));
-            Check.due("period", x.ring(2), 190);
-            x.goings(1);
-        }
-    }
-
-    /** A long way to a stand: LOST, until the stand is behind 300 or fewer. */
-    private static void longWay() {
-        FloatTowns x = Check.with("good a 2;good b 4;good c 12;float a 4 4 2 0 wants b 6 wants c 6;float b 4 3 2 0;"
-            + "float c 4 9 8 2 wants a 36 wants b 30 wants c 8;like a a - 3;like a b - 16;like a c 19;"
-            + "like b b - 7;like b c 18;like c a - 2;like c b - 1;like c c 16;"
-            + "town a gives b ask members*members/4 + 0;town b gives b ask - 3 + 0;town c gives a ask - 1 + 1;"
-            + "town d gives a gives c ask members*2 + 4;");
-        for (int left = 333; left >= 290; left--) {
-            Check.due("lost or stands, left " + left, x.ring(0), left > 300 ? 3 : 1);
-            Check.due("behind", x.ring(1), left > 300 ? -1 : left);
-            Check.due("no period", x.ring(2), -1);
-            x.goings(1);
-        }
-        Check.due("all that are left", x.goings(300), 289);
-        Check.due("it stands", x.first(0), -1);
     }
 
     /** Empties by the least that makes the last one go; 0 if nobody will be there anyhow. */
