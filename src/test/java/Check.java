@@ -5,6 +5,8 @@ import java.util.NoSuchElementException;
 /** What the tests share: feeding a text, and counting answers that are not due. */
 final class Check {
     static final long MIN = Long.MIN_VALUE;
+    /** Numbers of nothing that small texts tell; 32 and 64 would be 0 to a shift. */
+    static final int[] FAR = {Integer.MIN_VALUE, -1000, -2, -1, 5, 6, 31, 32, 64, 1 << 16, Integer.MAX_VALUE};
     private static int looked;
     private static int wrong;
     private static int sentences;

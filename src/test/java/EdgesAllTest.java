@@ -6,7 +6,6 @@ import java.util.List;
  */
 public final class EdgesAllTest {
     private static final long UNIT = 27720;
-    private static final int[] FAR = {Integer.MIN_VALUE, -1000, -2, -1, 5, 6, 31, 32, 64, 1 << 16, Integer.MAX_VALUE};
     private static final String TWO_TOWNS = "town t ask 0;town u ask 0;";
     /** 3 by 10 by 10 by 10 partings in two towns: 3000. */
     private static final String MOST = "float a 1 0 0 0;float b 3 0 0 0;float c 3 0 0 0;float d 3 0 0 0;" + TWO_TOWNS;
@@ -119,6 +118,13 @@ public final class EdgesAllTest {
         Check.due("better than alone, one", x.all(1), 1);
         x.go(0, 2, 1);
         Check.due("the parting counts not", x.all(1), 1);
+        x = Check.with("float f 1 0 1 0;town a ask 5;town b ask 5;town c ask 5;town d ask 5;");
+        Check.due("alone it holds", x.all(1), 1);
+        for (int town = 0; town < 4; town++) {
+            x.extra(town, -9);
+        }
+        Check.due("by what is asked now it holds in each town", x.all(1), 4);
+        Check.due("in the last one first", x.held(0, 0, 3), 1);
     }
 
     private static void heldCalls() {
@@ -133,7 +139,7 @@ public final class EdgesAllTest {
         Check.due("the sort beyond", x.held(0, 2, 0), -1);
         Check.due("the place beyond", x.held(0, 0, 2), -1);
         FloatTowns spent = Check.with(MORE);
-        for (int far : FAR) {
+        for (int far : Check.FAR) {
             Check.due("no such k", x.held(far, 0, 0), -1);
             Check.due("no such sort", x.held(0, far, 0), -1);
             Check.due("no such place", x.held(0, 0, far), -1);
@@ -244,7 +250,7 @@ public final class EdgesAllTest {
             Check.due("extra(0," + extra + ")", x.extra(0, extra), false);
         }
         Check.due("alone is no town", x.extra(2, 1), false);
-        for (int far : FAR) {
+        for (int far : Check.FAR) {
             Check.due("no such town", x.extra(far, 1), false);
         }
         Check.due("two steps", x.count(7), 2);
@@ -264,7 +270,7 @@ public final class EdgesAllTest {
         Check.due("loose", x.bind(1, false), true);
         Check.due("it is so", x.bind(1, false), false);
         Check.due("alone is no town", x.bind(2, true), false);
-        for (int far : FAR) {
+        for (int far : Check.FAR) {
             Check.due("no such town", x.bind(far, true), false);
             Check.due("no such town", x.bind(far, false), false);
         }
@@ -344,7 +350,7 @@ public final class EdgesAllTest {
             Check.due("no such what", x.reform(0, 30, 30, what), -1);
         }
         Check.due("alone is no town", x.reform(2, 30, 30, 0), -1);
-        for (int far : FAR) {
+        for (int far : Check.FAR) {
             Check.due("no such town", x.reform(far, 30, 30, 0), -1);
         }
         x.extra(0, -1);
@@ -445,7 +451,7 @@ public final class EdgesAllTest {
         Check.due("somebody is in t", x.split(1, 0, 1), Check.MIN);
         Check.due("alone is no town", x.split(2, 1, 0), Check.MIN);
         Check.due("to alone", x.split(0, 2, 0), Check.MIN);
-        for (int far : FAR) {
+        for (int far : Check.FAR) {
             Check.due("no such town", x.split(far, 1, 0), Check.MIN);
             Check.due("no such other", x.split(0, far, 0), Check.MIN);
         }
@@ -506,7 +512,7 @@ public final class EdgesAllTest {
         Check.due("no rows, no ground", x.out(1, 0, 0), -1);
         Check.due("no ground", x.out(2, 0, 0), -1);
         Check.due("alone is no town", x.out(3, 0, 0), -1);
-        for (int far : FAR) {
+        for (int far : Check.FAR) {
             Check.due("no such town", x.out(far, 0, 0), -1);
             Check.due("no such column", x.out(0, far, 0), -1);
             Check.due("no such row", x.out(0, 0, far), -1);

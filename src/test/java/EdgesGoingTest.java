@@ -6,7 +6,6 @@ import java.util.List;
  */
 public final class EdgesGoingTest {
     private static final long UNIT = 27720;
-    private static final int[] FAR = {Integer.MIN_VALUE, -1000, -2, -1, 5, 6, 31, 32, 64, 1 << 16, Integer.MAX_VALUE};
     private static final String A_UNIT = "1 / 999 / 27";
     /** One runs after the other: f to t, g to u, f to u, g to t, f to t, .. */
     private static final String CHASE =
@@ -48,7 +47,7 @@ public final class EdgesGoingTest {
         Check.due("the sort beyond", x.go(1, 2, 0), false);
         Check.due("the place beyond", x.go(0, 3, 0), false);
         Check.due("to the place beyond", x.go(0, 2, 3), false);
-        for (int far : FAR) {
+        for (int far : Check.FAR) {
             Check.due("no such sort", x.go(far, 2, 0), false);
             Check.due("no such a", x.go(0, far, 0), false);
             Check.due("no such b", x.go(0, 2, far), false);
@@ -184,7 +183,7 @@ public final class EdgesGoingTest {
         Check.due("both the same", x.would(1, 2, 2), -1);
         Check.due("the place beyond", x.would(1, 3, 0), -1);
         Check.due("to the place beyond", x.would(1, 2, 3), -1);
-        for (int far : FAR) {
+        for (int far : Check.FAR) {
             Check.due("no such a", x.would(1, far, 0), -1);
             Check.due("no such b", x.would(1, 2, far), -1);
         }
@@ -447,7 +446,7 @@ public final class EdgesGoingTest {
         Check.due("another town is empty", x.edge(1, 0), -1);
         Check.due("alone is no town", x.edge(2, 1), -1);
         Check.due("the sort beyond", x.edge(0, 2), -1);
-        for (int far : FAR) {
+        for (int far : Check.FAR) {
             Check.due("no such town", x.edge(far, 0), -1);
             Check.due("no such sort", x.edge(0, far), -1);
         }
@@ -490,7 +489,7 @@ public final class EdgesGoingTest {
         x.go(0, 1, 0);
         Check.due("by none", x.empties(0), 41);
         Check.due("alone is no town", x.empties(1), -1);
-        for (int far : FAR) {
+        for (int far : Check.FAR) {
             Check.due("no such town", x.empties(far), -1);
         }
         Check.due("none of no text", new FloatTowns().empties(0), -1);

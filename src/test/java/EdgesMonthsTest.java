@@ -7,7 +7,6 @@ import java.util.List;
  * both sides of the edge.
  */
 public final class EdgesMonthsTest {
-    private static final int[] FAR = {Integer.MIN_VALUE, -1000, -2, -1, 5, 6, 31, 32, 64, 1 << 16, Integer.MAX_VALUE};
     private static final int MOST = Integer.MAX_VALUE;
     /** Six come to t, one after another. */
     private static final String COMING = "good a 0;float f 6 0 1 0 wants a 99;town t gives a ask 0;town u ask 50;";
@@ -244,7 +243,7 @@ public final class EdgesMonthsTest {
             Check.due("seed " + seed, x.odds(1, seed, 1, 1), -1);
         }
         Check.due("alone is no town", x.odds(2, 0, 1, 1), -1);
-        for (int far : FAR) {
+        for (int far : Check.FAR) {
             Check.due("no such town", x.odds(far, 0, 1, 1), -1);
         }
         Check.due("nothing to undo", x.count(7), 0);

@@ -217,9 +217,10 @@ public final class EdgesTextTest {
         Check.sentence("are the TEXT");
         String plain = "good a 1;float a 2 1 3 0;float b 1 0 0 0;town a gives a ask 2;town b ask 3;ground a 3;";
         List<Long> due = Check.answers(Check.with(plain));
-        for (int i = 0; i < 6; i++) {
-            // of three, each is read where each of the others was ahead
-            Check.tell(x, i % 3 == 0 ? ALL_LINES : i % 3 == 1 ? plain + "?" : plain);
+        String[] others = {ALL_LINES, plain, "town t ask - ?", "town t ask ((((((1 + - ?", plain + "?"};
+        for (int i = 0; i < 10; i++) {
+            // each is read where each of the others was ahead
+            Check.tell(x, others[i % 5]);
             Check.tell(x, plain);
             Check.due("nothing of the others stays", due.equals(Check.answers(x)), true);
             Check.due("no want", x.wants(0, 0), 0);
@@ -233,6 +234,13 @@ public final class EdgesTextTest {
             Check.tell(x, ALL_LINES);
             Check.due("all lines again", x.fault(0), 0);
         }
+        x = new FloatTowns();
+        for (int i = 0; i < 40; i++) {
+            Check.due("brackets that stay open", Check.tell(x, "town t ask ((((((((1"), -1);
+        }
+        Check.tell(x, "float f 1 0 0 0;town t ask ((1 + 2 * 3));");
+        x.go(0, 1, 0);
+        Check.due("are none of a later rule", x.asked(0, 0), 7 * 27720);
     }
 
     private static void faultsTold() {
@@ -679,6 +687,9 @@ public final class EdgesTextTest {
 
         Check.sentence("a 65th KNOT of all E (N, NAMES, signs: one each)");
         Check.due("64 of one E", Check.with("town t ask " + knots(64) + ";").count(4), 64);
+        FloatTowns all = Check.with("float f 1 0 0 0;town t ask " + knots(64) + ";");
+        all.go(0, 1, 0);
+        Check.due("31 less 1, to the last knot", all.asked(0, 0), 30 * 27720);
         Check.due("brackets are none", Check.with("town t ask ((" + knots(64) + "));").count(4), 64);
         Check.faultAt(2, "town t ask " + knots(64) + "^+1;");
         Check.faultAt(2, "town t ask " + knots(64) + "^/1;");

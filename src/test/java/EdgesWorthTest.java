@@ -4,7 +4,6 @@
  */
 public final class EdgesWorthTest {
     private static final long UNIT = 27720;
-    private static final int[] FAR = {Integer.MIN_VALUE, -1000, -2, -1, 5, 6, 31, 32, 64, 1 << 16, Integer.MAX_VALUE};
     private static final String TWO = "good salt 12;good tea 3;float cat 2 5 40 3 wants tea 7;float dog 3 9 20 1;"
         + "like cat dog - 20;like dog dog 20;town t gives tea ask 1;town u gives salt votes bound ask 2;storm 7;";
 
@@ -32,7 +31,7 @@ public final class EdgesWorthTest {
     private static void looks() {
         FloatTowns x = Check.with(TWO);
         Check.sentence("IndexOutOfBoundsException: no such SORT.");
-        for (int sort : FAR) {
+        for (int sort : Check.FAR) {
             Check.due("look(" + sort + ",0)", Check.lookThrows(x, sort, 0), 1);
         }
         Check.due("the first beyond", Check.lookThrows(x, 2, 0), 1);
@@ -40,15 +39,15 @@ public final class EdgesWorthTest {
         Check.due("of no text", Check.lookThrows(new FloatTowns(), 0, 0), 1);
 
         Check.sentence("NoSuchElementException: no such what.");
-        for (int what : FAR) {
+        for (int what : Check.FAR) {
             Check.due("look(0," + what + ")", Check.lookThrows(x, 0, what), 2);
         }
         Check.due("the first beyond", Check.lookThrows(x, 1, 4), 2);
         Check.due("the last one is", x.look(1, 3), 1);
 
         Check.sentence("IndexOutOfBoundsException goes ahead of NoSuchElementException.");
-        for (int sort : FAR) {
-            for (int what : FAR) {
+        for (int sort : Check.FAR) {
+            for (int what : Check.FAR) {
                 Check.due("look(" + sort + "," + what + ")", Check.lookThrows(x, sort, what), 1);
             }
         }
@@ -63,7 +62,7 @@ public final class EdgesWorthTest {
         Check.due("without", x.wants(1, 1), 0);
         Check.due("the sort beyond", x.wants(2, 1), -1);
         Check.due("the good beyond", x.wants(0, 2), -1);
-        for (int far : FAR) {
+        for (int far : Check.FAR) {
             Check.due("no such sort", x.wants(far, 0), -1);
             Check.due("no such good", x.wants(0, far), -1);
             Check.due("neither", x.wants(far, far), -1);
@@ -75,7 +74,7 @@ public final class EdgesWorthTest {
         Check.due("without", x.likes(1, 0), 0);
         Check.due("the sort beyond", x.likes(2, 0), -99);
         Check.due("the other beyond", x.likes(0, 2), -99);
-        for (int far : FAR) {
+        for (int far : Check.FAR) {
             Check.due("no such sort", x.likes(far, 0), -99);
             Check.due("no such other", x.likes(0, far), -99);
         }
@@ -92,7 +91,7 @@ public final class EdgesWorthTest {
             }
         }
         Check.due("alone is no town", x.town(2, 0), -1);
-        for (int far : FAR) {
+        for (int far : Check.FAR) {
             Check.due("no such town", x.town(far, 0), -1);
             if (far != 5) {
                 Check.due("no such what", x.town(0, far), -1);
@@ -112,7 +111,7 @@ public final class EdgesWorthTest {
         Check.sentence("How many of a SORT are in a PLACE; NONE: no such ones.");
         Check.due("the place beyond", x.at(0, 3), -1);
         Check.due("the sort beyond", x.at(2, 0), -1);
-        for (int far : FAR) {
+        for (int far : Check.FAR) {
             Check.due("no such place", x.at(0, far), -1);
             Check.due("no such sort", x.at(far, 0), -1);
         }
@@ -129,6 +128,19 @@ public final class EdgesWorthTest {
         }
         Check.due("full, the fourth town has six", x.at(0, 3), 6);
         Check.due("empty, alone has none", x.at(0, 4), 0);
+        x = Check.with("float v 1 0 0 0;float w 1 0 0 0;float x 2 0 0 0;float y 2 0 0 0;float z 6 0 0 0;"
+            + "town a ask 1;town b ask 1;town c ask 1;town d ask 1;");
+        for (int town = 0; town < 4; town++) {
+            for (int i = 0; i < 6; i++) {
+                x.go(4, town == 0 ? 4 : town - 1, town);
+            }
+            x.go(3, 4, town);
+            for (int place = 0; place < 5; place++) {
+                Check.due("six of the fifth sort", x.at(4, place), place == town ? 6 : 0);
+                Check.due("of the fourth sort", x.at(3, place),
+                    place == 4 ? Math.max(0, 1 - town) : place <= Math.min(town, 1) ? 1 : 0);
+            }
+        }
     }
 
     private static void counts() {
@@ -354,7 +366,7 @@ public final class EdgesWorthTest {
         for (boolean comes : new boolean[] {false, true}) {
             Check.due("the place beyond", x.worth(0, 2, comes), Check.MIN);
             Check.due("the sort beyond", x.worth(2, 0, comes), Check.MIN);
-            for (int far : FAR) {
+            for (int far : Check.FAR) {
                 Check.due("no such place", x.worth(0, far, comes), Check.MIN);
                 Check.due("no such sort", x.worth(far, 0, comes), Check.MIN);
             }
@@ -382,7 +394,7 @@ public final class EdgesWorthTest {
         Check.due("none in t", x.asked(0, 0), Check.MIN);
         x.go(0, 2, 0);
         Check.due("the sort beyond", x.asked(1, 0), Check.MIN);
-        for (int far : FAR) {
+        for (int far : Check.FAR) {
             Check.due("no such town", x.asked(0, far), Check.MIN);
             Check.due("no such sort", x.asked(far, 0), Check.MIN);
         }
@@ -400,7 +412,7 @@ public final class EdgesWorthTest {
         Check.due("both the same", x.gain(0, 0, 0), Check.MIN);
         Check.due("the place beyond", x.gain(0, 0, 3), Check.MIN);
         Check.due("the sort beyond", x.gain(1, 0, 1), Check.MIN);
-        for (int far : FAR) {
+        for (int far : Check.FAR) {
             Check.due("no such a", x.gain(0, far, 1), Check.MIN);
             Check.due("no such b", x.gain(0, 0, far), Check.MIN);
             Check.due("no such sort", x.gain(far, 0, 1), Check.MIN);
@@ -453,7 +465,7 @@ public final class EdgesWorthTest {
         Check.due("empty, what it gives costs nothing", x.met(2), 1);
         Check.due("empty, and its good costs", x.met(3), 0);
         Check.due("alone is no town", x.met(4), -1);
-        for (int far : FAR) {
+        for (int far : Check.FAR) {
             Check.due("no such town", x.met(far), -1);
         }
     }
